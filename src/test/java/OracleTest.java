@@ -18,7 +18,7 @@ public final class OracleTest {
     }
 
     public static void main(String[] args) {
-        int runs = args.length > 0 ? Integer.parseInt(args[0]) : 600;
+        int runs = args.length > 0 ? Integer.parseInt(args[0]) : 3000;
         int first = args.length > 1 ? Integer.parseInt(args[1]) : 0;
         Check check = new Check("OracleTest");
         for (int k = first; k < first + runs && check.wrongs() == 0; k++) {

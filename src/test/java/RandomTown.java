@@ -1,4 +1,5 @@
 import java.util.ArrayList;
+import java.util.Collections;
 import java.util.List;
 import java.util.Random;
 
@@ -16,6 +17,8 @@ final class RandomTown {
     private final List<String> owners = new ArrayList<>();
     private final List<String> lots = new ArrayList<>();
     private List<String> tokens;
+    /** Whether people leap and climb well, and roofs are near and whole. */
+    private boolean easy;
 
     RandomTown(Random random) {
         this.random = random;
@@ -59,6 +62,7 @@ final class RandomTown {
         names.clear();
         owners.clear();
         lots.clear();
+        easy = below(2) == 0;
         int ownerCount = between(below(8) == 0 ? 0 : 1, 5);
         for (int k = 0; k < ownerCount; k++) {
             owners.add(freshName());
@@ -78,12 +82,12 @@ final class RandomTown {
     }
 
     private void tellLots() {
-        int lotCount = below(4) == 0 ? between(0, 10) : between(3, 7);
+        int lotCount = below(4) == 0 ? between(0, 10) : between(3, easy ? 9 : 7);
         int heights = below(2) == 0 ? 4 : 20;
         int tiles = below(2) == 0 ? 8 : 30;
         for (int k = 0; k < lotCount; k++) {
             lots.add(freshName());
-            int there = below(5) == 0 ? 0 : between(0, tiles);
+            int there = below(easy ? 9 : 5) == 0 ? 0 : between(0, tiles);
             put("lot", lots.get(k), "of", some(owners), "height", between(0, heights), "tiles", there, ";");
             if (below(3) == 0) {
                 put("inn", lots.get(k), "beds", between(1, below(3) == 0 ? 9 : 2), ";");
@@ -99,8 +103,12 @@ final class RandomTown {
         for (int k = between(0, 6); k > 0; k--) {
             int at = below(lotCount);
             int to = (at + between(1, lotCount - 1)) % lotCount;
-            put("person", freshName(), "weight", between(1, below(2) == 0 ? 30 : 99), "leap", between(0, 9));
-            put("climb", between(0, below(2) == 0 ? 5 : 20), "heel", between(0, below(2) == 0 ? 2 : 9));
+            for (int tries = 0; easy && tries < 5 && Math.abs(at - to) < 3; tries++) {
+                to = (at + between(1, lotCount - 1)) % lotCount;
+            }
+            put("person", freshName(), "weight", between(1, below(2) == 0 ? 30 : 99), "leap");
+            put(between(easy ? 4 : 0, 9));
+            put("climb", between(easy ? 3 : 0, below(2) == 0 ? 5 : 20), "heel", between(0, below(2) == 0 ? 2 : 9));
             put("at", lots.get(at), "to", lots.get(to), ";");
         }
         for (int k = between(0, below(2) == 0 ? 8 : 4); k > 0; k--) {
@@ -127,11 +135,15 @@ final class RandomTown {
                 pairs.add(below(2) == 0 ? new int[] {a, b} : new int[] {b, a});
             }
         }
-        java.util.Collections.shuffle(pairs, random);
-        int most = Math.min(20, Math.min(pairs.size(), below(3) == 0 ? 20 : lotCount + 3));
+        Collections.shuffle(pairs, random);
+        if (easy) {
+            // near lots alone: then ways are long
+            pairs.removeIf(pair -> Math.abs(pair[0] - pair[1]) > 2);
+        }
+        int most = Math.min(20, Math.min(pairs.size(), below(3) == 0 ? 20 : lotCount + (easy ? 6 : 3)));
         for (int k = 0; k < most; k++) {
             put("gap", lots.get(pairs.get(k)[0]), lots.get(pairs.get(k)[1]), "wide");
-            put(between(0, below(3) == 0 ? 9 : 3), ";");
+            put(between(0, !easy && below(3) == 0 ? 9 : 3), ";");
         }
     }
 

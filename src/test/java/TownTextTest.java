@@ -107,6 +107,8 @@ public final class TownTextTest {
         wrongAtMark(1, "owner o;bar o when !-1<2;");
         wrongAtMark(1, "owner o;bar o when 1*!/2<2;");
         wrongAtMark(1, "owner o;bar o when min!1,2)<2;");
+        wrongAtMark(1, "owner o;bar o when min !=3;");
+        wrongAtMark(1, "owner o;bar o when 2=max!;");
         wrongAtMark(1, "owner o;bar o when min(1!)<2;");
         wrongAtMark(1, "owner o;bar o when max(1,2!,3)<2;");
         wrongAtMark(1, "owner o;bar o when !leap<2;");

@@ -220,5 +220,15 @@ public final class WaysTest {
         check.due("b is a hole: by q and r", x.leave(0, 1), 6);
         x.fire(2, 0);
         check.due("c, too: by q and s", x.leave(0, 1), 10);
+        // by o's and q's lots to r's, or by s's: two owners are fewer than three, though their bits are more
+        TileHeel y = Check.told("owner o;owner q;owner r;owner s;lot a of r height 0 tiles 1;lot b of o height 0 tiles 1;"
+            + "lot c of q height 0 tiles 1;lot d of s height 0 tiles 1;lot e of r height 0 tiles 1;"
+            + "gap a b wide 0;gap b c wide 0;gap c e wide 0;gap a d wide 0;gap d e wide 0;"
+            + "person p weight 1 leap 0 climb 0 heel 0 at a to e;");
+        check.due("two owners", y.leave(0, 0), 2);
+        check.due("r and s", y.leave(0, 1), 12);
+        y.fire(3, 0);
+        check.due("three owners", y.leave(0, 0), 3);
+        check.due("o, q and r", y.leave(0, 1), 7);
     }
 }

@@ -130,6 +130,7 @@ public final class WouldBeTest {
         check.due("odds of s", x.broke(1, 4, 3), 1000);
         check.due("heel 0: nobody", x.broke(1, 0, NONE), 0);
         check.due("heel 0: odds", x.broke(1, 0, 0), 0);
+        check.due("heel 9: nobody", x.broke(1, 9, NONE), 0);
         check.due("heel -1", x.broke(1, -1, NONE), NONE);
         check.due("heel 10", x.broke(1, 10, 20), NONE);
         check.due("no lot 5", x.broke(5, 3, NONE), NONE);
