@@ -137,6 +137,14 @@ final class ActSentences {
         ledger.due("the latest is q's", x.led(59, 2), 1);
         ledger.due("the one ahead of it", x.led(58, 2), 2);
         ledger.due("no 61st", x.led(60, 0), NONE);
+        x.go(0);
+        x.go(2);
+        ledger.due("60 of 63", x.has(11), 60);
+        ledger.due("the oldest is of night 1", x.led(0, 0), 1);
+        ledger.due("the oldest is p's again", x.led(0, 2), 0);
+        ledger.due("on a", x.led(0, 1), 0);
+        ledger.due("the last of night 18", x.led(53, 0), 18);
+        ledger.due("the first of night 19", x.led(54, 0), 19);
     }
 
     // ---- a NIGHT
@@ -325,12 +333,13 @@ final class ActSentences {
         }
     }
 
-    /** Told, in NIGHT 990, and nine nights more. */
-    private static void lastNight(TileHeel x) {
+    /** Told, in NIGHT 996, and three nights more. */
+    private static void lastNight(TileHeel x, int seed) {
         Check.town(x, Lives.TOWN);
-        Check.feed(x, Check.image(3, 222, 0, 3, 2, 30, 0, 0, 2, 2, 3, 0, 0, 0, 0, 0, 0, 0, 0));
+        x.seed(seed);
+        Check.feed(x, Check.image(3, 228, 0, 3, 2, 30, 0, 0, 2, 2, 3, 0, 0, 0, 0, 0, 0, 0, 0));
         x.on();
-        for (int k = 0; k < 9; k++) {
+        for (int k = 0; k < 3; k++) {
             x.night();
         }
     }
@@ -345,10 +354,12 @@ final class ActSentences {
         TileHeel long1 = Check.told(Lives.lots(9, 1, 1, 2) + Lives.gaps(0, "ab bc cd") + Lives.person("p", 11, 0, 0, 0, "a", "d"));
         ledger.due("all that one breaks", long1.night(), 3);
         ledger.sentence("NONE, doing nothing, in NIGHT 999.");
-        TileHeel last = new TileHeel();
-        lastNight(last);
-        ledger.due("it is night 999", last.has(7), 999);
-        ledger.refused("night 999", ActSentences::lastNight, TileHeel::night, NONE);
+        for (int seed : new int[] {1, 2, 5, 77}) {
+            TileHeel last = new TileHeel();
+            lastNight(last, seed);
+            ledger.due("it is night 999", last.has(7), 999);
+            ledger.refused("night 999, seed " + seed, z -> lastNight(z, seed), TileHeel::night, NONE);
+        }
     }
 
     private void patch() {
@@ -561,5 +572,9 @@ final class ActSentences {
             ledger.due("what " + what, x.led(0, what), NONE);
             ledger.due("what " + what, x.led(4, what), NONE);
         }
+        ledger.asks("led", (z, n) -> {
+            z.led(n, 0);
+            z.led(0, n);
+        });
     }
 }

@@ -196,6 +196,8 @@ final class FaultSentences {
         texts.wrongAtMark(1, OWNER + "bar o when [[[[[[all!(");
         texts.wrongAtMark(1, OWNER + "bar o when [[[[[[1<!not");
         texts.wrongAtMark(1, OWNER + "toll o ((((((!not");
+        texts.wrongAtMark(1, OWNER + "toll o ((((((min !1");
+        texts.wrongAtMark(1, OWNER + "bar o when [[[[[[1<max !;");
     }
 
     private void tooMany() {

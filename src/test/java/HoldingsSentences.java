@@ -89,6 +89,7 @@ final class HoldingsSentences {
         for (int what : new int[] {-1, 13, 14, 20, 32, MAX, MIN}) {
             ledger.due("has(" + what + ")", x.has(what), NONE);
         }
+        ledger.asks("has", TileHeel::has);
     }
 
     /** What a larger town had is not counted in a smaller one. */
@@ -146,6 +147,11 @@ final class HoldingsSentences {
                 ledger.due("kind " + kind + " which " + which, x.letter(kind, which, 5), NONE);
             }
         }
+        ledger.asks("letter", (z, n) -> {
+            z.letter(n, 0, 0);
+            z.letter(0, n, 0);
+            z.letter(1, 0, n);
+        });
     }
 
     private void lot() {
@@ -172,6 +178,10 @@ final class HoldingsSentences {
             ledger.due("what " + what, x.lot(0, what), NONE);
             ledger.due("what " + what, x.lot(2, what), NONE);
         }
+        ledger.asks("lot", (z, n) -> {
+            z.lot(n, 0);
+            z.lot(0, n);
+        });
     }
 
     private void rows(String call, int[][] due, TileHeel x) {
@@ -203,6 +213,10 @@ final class HoldingsSentences {
             ledger.due("from " + none, x.gap(none, 0), NONE);
             ledger.due("both " + none, x.gap(none, none), NONE);
         }
+        ledger.asks("gap", (z, n) -> {
+            z.gap(n, 0);
+            z.gap(0, n);
+        });
     }
 
     private void person() {
@@ -235,6 +249,10 @@ final class HoldingsSentences {
             ledger.due("what " + what, x.person(0, what), NONE);
             ledger.due("what " + what, x.person(3, what), NONE);
         }
+        ledger.asks("person", (z, n) -> {
+            z.person(n, 0);
+            z.person(0, n);
+        });
     }
 
     /** 60 tiles of p's and one of q's: the oldest of p's is told no more. */
@@ -266,5 +284,6 @@ final class HoldingsSentences {
         for (int owner : new int[] {-1, 2, 5, 32, MAX, MIN}) {
             ledger.due("owner " + owner, x.purse(owner), TileHeel.NOTHING);
         }
+        ledger.asks("purse", TileHeel::purse);
     }
 }

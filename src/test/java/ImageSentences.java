@@ -136,6 +136,7 @@ final class ImageSentences {
         for (int k : new int[] {-1, 46, 47, 64, MAX, MIN}) {
             ledger.due("octet " + k, y.octet(k), NONE);
         }
+        ledger.asks("octet", TileHeel::octet);
     }
 
     private void on() {

@@ -6,6 +6,7 @@ import java.util.ArrayList;
 import java.util.LinkedHashMap;
 import java.util.List;
 import java.util.Map;
+import java.util.function.BiConsumer;
 import java.util.function.Consumer;
 import java.util.function.ToLongFunction;
 
@@ -27,6 +28,8 @@ final class Ledger {
         }
     }
 
+    private static final int[] EDGES = {-1, 2, 4, 6, 10, 20, 21, 32, Integer.MAX_VALUE, Integer.MIN_VALUE};
+
     private final Map<String, Section> sections = new LinkedHashMap<>();
     private final List<String> lines = new ArrayList<>();
     private final Check check = new Check("SentencesTest");
@@ -34,6 +37,7 @@ final class Ledger {
     private String title = "";
     private String sentence = "";
     private int checks = TOLD_ALONE;
+    private boolean cutShort;
 
     Ledger(Path document) throws IOException {
         String all = Files.readString(document, StandardCharsets.UTF_8).replaceAll("\\s+", " ");
@@ -121,6 +125,18 @@ final class Ledger {
         same(call, Everything.of(called), Everything.of(other));
     }
 
+    /** Questions with arguments that may not be: whatever they answer, all stays as it was. */
+    void asks(String questions, BiConsumer<TileHeel, Integer> them) {
+        TileHeel asked = new TileHeel();
+        TileHeel other = new TileHeel();
+        Lives.lived(asked);
+        Lives.lived(other);
+        for (int argument : EDGES) {
+            them.accept(asked, argument);
+        }
+        same(questions, Everything.of(asked), Everything.of(other));
+    }
+
     void same(String call, List<String> got, List<String> want) {
         for (int k = 0; k < Math.max(got.size(), want.size()); k++) {
             String left = k < got.size() ? got.get(k) : "nothing";
@@ -131,6 +147,16 @@ final class Ledger {
             }
         }
         due(call + " leaves all", true, true);
+    }
+
+    /** A part of the document; if a town of its checks can't be told, that is a failure of the sentence that tells it. */
+    void hold(Consumer<Ledger> part) {
+        try {
+            part.accept(this);
+        } catch (IllegalStateException untold) {
+            due(untold.getMessage(), false, true);
+            cutShort = true;
+        }
     }
 
     private void closeSentence() {
@@ -145,7 +171,7 @@ final class Ledger {
         closeSentence();
         for (Map.Entry<String, Section> one : sections.entrySet()) {
             check.due(one.getKey() + " has words that no check holds: " + untold(one.getValue()),
-                untold(one.getValue()).isEmpty(), true);
+                cutShort || untold(one.getValue()).isEmpty(), true);
         }
         if (tellLines) {
             lines.forEach(System.out::println);

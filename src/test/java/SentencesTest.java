@@ -8,14 +8,14 @@ import java.nio.file.Path;
 public final class SentencesTest {
     public static void main(String[] args) throws IOException {
         Ledger ledger = new Ledger(Path.of("../shared/DOC.md"));
-        TapeSentences.hold(ledger);
-        TextSentences.hold(ledger);
-        FaultSentences.hold(ledger);
-        HoldingsSentences.hold(ledger);
-        WaySentences.hold(ledger);
-        ActSentences.hold(ledger);
-        WouldBeSentences.hold(ledger);
-        ImageSentences.hold(ledger);
+        ledger.hold(TapeSentences::hold);
+        ledger.hold(TextSentences::hold);
+        ledger.hold(FaultSentences::hold);
+        ledger.hold(HoldingsSentences::hold);
+        ledger.hold(WaySentences::hold);
+        ledger.hold(ActSentences::hold);
+        ledger.hold(WouldBeSentences::hold);
+        ledger.hold(ImageSentences::hold);
         ledger.close(args.length > 0);
     }
 }

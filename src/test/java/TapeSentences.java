@@ -136,7 +136,9 @@ final class TapeSentences {
         ledger.due("to 1600 again", blanks(full), 1600);
         for (int length : new int[] {1600, 1581}) {
             ledger.refused("feed behind " + length, z -> {
-                Lives.lived(z);
+                Check.town(z, Lives.TOWN);
+                z.seed(77);
+                z.go(0);
                 Check.feed(z, "owner z;");
                 // 28, 48 .. 1588
                 blanks(z, SHORT_OF_FULL);
@@ -290,5 +292,6 @@ final class TapeSentences {
         for (int what : new int[] {-1, 2, 3, Integer.MAX_VALUE, Integer.MIN_VALUE}) {
             ledger.due("fault(" + what + ")", x.fault(what), NONE);
         }
+        ledger.asks("fault", TileHeel::fault);
     }
 }

@@ -331,6 +331,7 @@ final class TextSentences {
             ledger.due("a town of " + text.length() + " bytes", Check.town(x, text), 5);
             ledger.due("the sum of " + (more + 1) + " ones", x.toll(0, 0), more + 1);
         }
+        x = new TileHeel();
         String full = before + " ".repeat(1600 - before.length() - after.length()) + after;
         ledger.due("1600 bytes", full.length(), 1600);
         ledger.due("a town of 1600 bytes", Check.town(x, full), 5);

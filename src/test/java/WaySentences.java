@@ -261,6 +261,10 @@ final class WaySentences {
         x.snow(3);
         ledger.due("no lot in snow", x.toll(0, 3), -2);
         ledger.due("no person in snow", x.toll(1, 0), -2);
+        ledger.asks("toll", (z, n) -> {
+            z.toll(n, 0);
+            z.toll(0, n);
+        });
     }
 
     private void step() {
@@ -281,6 +285,11 @@ final class WaySentences {
         for (int none : new int[] {-1, 1, 6, 32, MAX, MIN}) {
             ledger.due("person " + none, x.step(none, 0, 1), NONE);
         }
+        ledger.asks("step", (z, n) -> {
+            z.step(n, 0, 1);
+            z.step(0, n, 1);
+            z.step(0, 0, n);
+        });
     }
 
     private void way() {
@@ -304,6 +313,10 @@ final class WaySentences {
         for (int k : new int[] {-2, 4, 5, 9, 10, 19, 21, MAX, MIN}) {
             ledger.due("k " + k, y.way(0, k), NONE);
         }
+        ledger.asks("way", (z, n) -> {
+            z.way(n, NONE);
+            z.way(0, n);
+        });
     }
 
     private void leave() {
@@ -323,6 +336,10 @@ final class WaySentences {
         x.fire(4, 0);
         ledger.due("no way", x.leave(0, 0), NONE);
         ledger.due("bits without a way", x.leave(0, 1), NONE);
+        ledger.asks("leave", (z, n) -> {
+            z.leave(n, 0);
+            z.leave(0, n);
+        });
         ledger.sentence("(In SNOW all LOTS of others count as BARRED, too.)");
         TileHeel y = Check.told(TWO_OWNERS + "bar q when all;");
         ledger.due("barred by a bar", y.leave(0, 0), NONE);

@@ -221,6 +221,10 @@ final class WouldBeSentences {
         x.fire(0, 0);
         ledger.due("a hole", x.burns(0, 0), NONE);
         ledger.due("beside a hole", x.burns(1, 20), 6);
+        ledger.asks("burns", (z, n) -> {
+            z.burns(n, 0);
+            z.burns(0, n);
+        });
     }
 
     private void stopped() {
@@ -239,6 +243,10 @@ final class WouldBeSentences {
         for (int what : new int[] {-1, 2, 3, 20, MAX, MIN}) {
             ledger.due("what " + what, x.stopped(0, what), NONE);
         }
+        ledger.asks("stopped", (z, n) -> {
+            z.stopped(n, 0);
+            z.stopped(0, n);
+        });
     }
 
     private void opened() {
@@ -257,6 +265,10 @@ final class WouldBeSentences {
         for (int what : new int[] {-1, 2, 3, 20, MAX, MIN}) {
             ledger.due("what " + what, x.opened(0, what), NONE);
         }
+        ledger.asks("opened", (z, n) -> {
+            z.opened(n, 0);
+            z.opened(0, n);
+        });
     }
 
     private void broke() {
@@ -286,6 +298,11 @@ final class WouldBeSentences {
         for (int k : new int[] {-2, 4, 5, 6, 19, 21, 32, MAX, MIN}) {
             ledger.due("k " + k, x.broke(1, 3, k), NONE);
         }
+        ledger.asks("broke", (z, n) -> {
+            z.broke(n, 4, NONE);
+            z.broke(0, n, NONE);
+            z.broke(0, 4, n);
+        });
     }
 
     private void worth() {
@@ -306,6 +323,10 @@ final class WouldBeSentences {
             ledger.due("from " + none, x.worth(none, 0), NOTHING);
             ledger.due("both " + none, x.worth(none, none), NOTHING);
         }
+        ledger.asks("worth", (z, n) -> {
+            z.worth(n, 0);
+            z.worth(0, n);
+        });
     }
 
     private void reach() {
@@ -326,6 +347,7 @@ final class WouldBeSentences {
         for (int none : NO_PERSONS) {
             ledger.due("person " + none, high.reach(none), NONE);
         }
+        ledger.asks("reach", TileHeel::reach);
     }
 
     private void leaks() {
