@@ -16,7 +16,20 @@ import java.util.function.ToLongFunction;
  * when a section has words that no sentence has told.
  */
 final class Ledger {
-    private static final int TOLD_ALONE = -1;
+    private static final Path DOCUMENT = Path.of("../shared/DOC.md");
+    /** The face and what is not promised have no sentence that an answer could hold. */
+    private static final String[] NAMES = {
+        "What it is", "Terms", "Promise 1: A new object", "Promise 2: feed", "Promise 3: end",
+        "Promise 4: town", "Promise 5: fault", "Promise 6: has", "Promise 7: letter", "Promise 8: lot",
+        "Promise 9: gap", "Promise 10: person", "Promise 11: purse", "Promise 12: toll", "Promise 13: step",
+        "Promise 14: way", "Promise 15: leave", "Promise 16: go", "Promise 17: night", "Promise 18: patch",
+        "Promise 19: snow", "Promise 20: fire", "Promise 21: undo", "Promise 22: seed", "Promise 23: led",
+        "Promise 24: burns", "Promise 25: stopped", "Promise 26: opened", "Promise 27: broke", "Promise 28: worth",
+        "Promise 29: reach", "Promise 30: leaks", "Promise 31: image", "Promise 32: octet", "Promise 33: on"};
+
+    private static final int[] EDGES = {-1, 2, 4, 6, 10, 20, 21, 32, Integer.MAX_VALUE, Integer.MIN_VALUE};
+    /** In place of a count of checks, where no sentence is open. */
+    private static final int NO_SENTENCE = -1;
 
     private static final class Section {
         final String text;
@@ -28,19 +41,17 @@ final class Ledger {
         }
     }
 
-    private static final int[] EDGES = {-1, 2, 4, 6, 10, 20, 21, 32, Integer.MAX_VALUE, Integer.MIN_VALUE};
-
     private final Map<String, Section> sections = new LinkedHashMap<>();
     private final List<String> lines = new ArrayList<>();
     private final Check check = new Check("SentencesTest");
     private Section section;
     private String title = "";
     private String sentence = "";
-    private int checks = TOLD_ALONE;
+    private int checks = NO_SENTENCE;
     private boolean cutShort;
 
-    Ledger(Path document) throws IOException {
-        String all = Files.readString(document, StandardCharsets.UTF_8).replaceAll("\\s+", " ");
+    Ledger() throws IOException {
+        String all = Files.readString(DOCUMENT, StandardCharsets.UTF_8).replaceAll("\\s+", " ");
         for (String part : all.split(" ## ")) {
             for (String name : NAMES) {
                 if (part.startsWith(name)) {
@@ -50,16 +61,6 @@ final class Ledger {
         }
         check.due("sections of the document that are to be held", sections.size(), NAMES.length);
     }
-
-    /** The face and what is not promised have no sentence that an answer could hold. */
-    private static final String[] NAMES = {
-        "What it is", "Terms", "Promise 1: A new object", "Promise 2: feed", "Promise 3: end",
-        "Promise 4: town", "Promise 5: fault", "Promise 6: has", "Promise 7: letter", "Promise 8: lot",
-        "Promise 9: gap", "Promise 10: person", "Promise 11: purse", "Promise 12: toll", "Promise 13: step",
-        "Promise 14: way", "Promise 15: leave", "Promise 16: go", "Promise 17: night", "Promise 18: patch",
-        "Promise 19: snow", "Promise 20: fire", "Promise 21: undo", "Promise 22: seed", "Promise 23: led",
-        "Promise 24: burns", "Promise 25: stopped", "Promise 26: opened", "Promise 27: broke", "Promise 28: worth",
-        "Promise 29: reach", "Promise 30: leaks", "Promise 31: image", "Promise 32: octet", "Promise 33: on"};
 
     void section(String name) {
         closeSentence();
@@ -160,11 +161,11 @@ final class Ledger {
     }
 
     private void closeSentence() {
-        if (checks != TOLD_ALONE) {
+        if (checks != NO_SENTENCE) {
             check.due(title + ": checks for: " + sentence, checks > 0, true);
             lines.add(String.format("%6d  %s", checks, sentence));
         }
-        checks = TOLD_ALONE;
+        checks = NO_SENTENCE;
     }
 
     void close(boolean tellLines) {

@@ -1,5 +1,4 @@
 import java.io.IOException;
-import java.nio.file.Path;
 
 /**
  * The document, sentence by sentence: each stands with the checks that hold it, its bounds from just inside and from
@@ -7,7 +6,7 @@ import java.nio.file.Path;
  */
 public final class SentencesTest {
     public static void main(String[] args) throws IOException {
-        Ledger ledger = new Ledger(Path.of("../shared/DOC.md"));
+        Ledger ledger = new Ledger();
         ledger.hold(TapeSentences::hold);
         ledger.hold(TextSentences::hold);
         ledger.hold(FaultSentences::hold);
